@@ -207,6 +207,11 @@ public final class PromiseTests {
         due("3w", type(x, "3w") + x.cursor(), "00" + at(2, 2));
         worked("abc def", "wlb", "abc def", 4);
         rang("abc", "", "b");
+        worked("aAzZ09_ .", "w", "aAzZ09_ .", 8);
+        worked("~A Z 0 9", "w", "~A Z 0 9", 1);
+        for (String edge : "@A [Z `a {z /0 :9".split(" ")) {
+            worked(edge, "w", edge, 1);
+        }
     }
 
     private static void operatorsOnLines() {
@@ -248,6 +253,7 @@ public final class PromiseTests {
         worked("abcdef", "3ld0", "def", 0);
         rang("abc", "", "d0");
         worked("abcdef", "3ld$", "abc", 2);
+        worked("a", "d$", "", 0);
         worked("ab cd ef", "2dw", "ef", 0);
         worked("ab cd|ef", "wdw", "ab |ef", 2);
         worked("ab cd", "wdw", "ab ", 2);
@@ -307,6 +313,7 @@ public final class PromiseTests {
         rang("1|2|3|4|5|6|7|8|9|0", "", "O");
         KeyScreen x = with("abc");
         due("BACK behind the blanks of o", type(x, "i  " + ESC + "o" + BACK), "0000" + "0" + "1");
+        worked("", "i   " + BACK + ESC + "ox" + ESC, "  |  x", at(1, 2));
     }
 
     private static void inserting() {
@@ -337,6 +344,11 @@ public final class PromiseTests {
         worked("abc", "$i" + ESC + "u", "abc", 2);
         worked("abc", "lixy" + BACK + ENTER + "z" + ESC + "u", "abc", 1);
         worked("abc", "x$2xu", "bc", 1);
+        worked("abc", "xpu", "bc", 0);
+        worked("abc|d", "xyyPu", "bc|d", 0);
+        worked("abc", "xox" + ESC + "u", "bc", 0);
+        worked("abc", "xOx" + ESC + "u", "bc", 0);
+        worked("abc", "xccx" + ESC + "u", "bc", 0);
         worked("abc", "lx0yydhu", "abc", 1);
         worked("abc", "lxyydhu", "ac", 1);
         worked("abc", "lx:s/q/r/" + ENTER + "u", "abc", 1);
@@ -442,12 +454,25 @@ public final class PromiseTests {
         sought("xabcdefgh", "abcdefgh$", 1);
         sought("xabcdefghi", "abcdefghi", -1);
         sought("x12345678", "[0-9]*.\\8$", 1);
+        sought("a~b", ".b", 1);
+        sought("a~b", "[^a-z]", 1);
+        sought("a~b", "~", 1);
+        sought("a b", "[ -!]", 1);
+        sought("abc^", "[^]", 3);
+        sought("axyz", "[" + "z".repeat(28) + "]", 3);
+        sought("aaa", "[a-z]*b", -1);
         for (String none : new String[] {"[", "[]", "[^", "[ab", "*", "*a", "^*", "a**", "\\", "a\\", "[]a", "..[x"}) {
             sought("abc[]^*\\", none, -1);
         }
         worked("abc|def", "$/z*$" + ENTER, "abc|def", 2);
         worked("abc|def", "j$/z*$" + ENTER + "/^" + ENTER, "abc|def", 0);
         worked("a|b|a", "G/a" + ENTER, "a|b|a", 0);
+        worked("abc|ba", "/ba*" + BACK + ENTER, "abc|ba", at(1, 0));
+        worked("xa|xab", "/xab*" + ENTER + "/xab" + ENTER, "xa|xab", at(1, 0));
+        for (String cut : new String[] {"/[ab]", "/\\b", ":/b/", ":s/a/b/", ":s/a/\\/", ":g/b/d"}) {
+            KeyScreen x = with("a|b");
+            due(cut + " without its last character", last(x, cut + BACK + ENTER) + text(x), "1" + "a|b");
+        }
         KeyScreen x = with("ab");
         due("search is no change", type(x, "/b" + ENTER + "u").substring(3) + x.cursor(), "00");
     }
@@ -477,6 +502,9 @@ public final class PromiseTests {
         line(lines, "jl", "%", lines, at(3, 0));
         line(lines, "jl", "3", lines, at(2, 0));
         line(lines, "jl", "03", lines, at(2, 0));
+        line("1|2|3|4|5|6|7|8|9|0", "", "9", "1|2|3|4|5|6|7|8|9|0", at(8, 0));
+        line("1|2|3|4|5|6|7|8|9|0", "", "10d", "1|2|3|4|5|6|7|8|9", at(8, 0));
+        line("1|2|3|4|5|6|7|8|9|0", "", "09d", "1|2|3|4|5|6|7|8|0", at(8, 0));
         line(lines, "jl", "1,3", lines, at(2, 0));
         line(lines, "jl", ".,$", lines, at(3, 0));
         line(lines, "jl", "/b/", lines, at(2, 0));
@@ -504,6 +532,10 @@ public final class PromiseTests {
         line("abc", "", "s/x*/-/g", "-a-b-c-", 0);
         line("abc", "", "s/x*/-/", "-abc", 0);
         line("abc", "", "s/b*/-/g", "-a-c-", 0);
+        line("aaaaa", "", "s/aa/x/g", "xxa", 0);
+        line("aabab", "", "s/a*b/<&>/g", "<aab><ab>", 0);
+        line("aabab", "", "s/a*b/<&>/", "<aab>ab", 0);
+        line("ababb", "", "s/b*$/-/g", "aba-", 0);
         line("abc", "", "s/$/-/g", "abc-", 0);
         line("aaa", "", "s/^a/-/g", "-aa", 0);
         line("aaa", "", "s/^/-/g", "-aaa", 0);
@@ -516,7 +548,7 @@ public final class PromiseTests {
         line("1234567890", "", "s/.*/&&/", "12345678901234567890", 0);
         line("12345678", "", "s/[13]/&.&/g", "1.123.345678", 0);
         for (String wrong : new String[] {"s/q/r/", "s/a", "s/a/", "s/a/b", "s/a/b\\/", "s/a/b/gg", "s/a/b/ ", "s//b/",
-            "s/*/b/", "s a b ", "s/a/b/c/", "s/\\//b/", "2s/a/x/", "%s/q/r/g", "s/.*/&&&&&&&/", "s/./1234567/g", "sx"}) {
+            "s/*/b/", "s a b ", "s/a/b/c/", "s/\\//b/", "2s/a/x/", "sa/b/", "%s/q/r/g", "s/.*/&&&&&&&/", "s/./1234567/g", "sx"}) {
             lineRings("aaa|bbb|ccc", "l", wrong);
         }
         lineRings("a|aaaaaaaaaaa", "", "%s/a/&&/g");
@@ -538,7 +570,7 @@ public final class PromiseTests {
         line("ab||c", "", "g/^$/d", "ab|c", at(1, 0));
         line("ab||c", "", "g/$/s/$/./", "ab.|.|c.", at(2, 0));
         for (String wrong : new String[] {"g/q/d", "g/a/", "g/a", "g/a/w", "g/a/d ", "g/a/dd", "g/a/2d", "g/a/g/a/d",
-            "g/a/pre", "g//d", "g/*/d", "g/a/s/a/", "g/a/s//b/", "ga/d", "2g/a/d", "g/a/s/a/1234567890&&&1234567/",
+            "g/a/pre", "gd", "gs/a/b/", "g//d", "g/*/d", "g/a/s/a/", "g/a/s//b/", "ga/d", "2g/a/d", "g/a/s/a/1234567890&&&1234567/",
             "g/c/s/a/x/y"}) {
             lineRings("aaa|bbb|ccc", "l", wrong);
         }
@@ -577,6 +609,8 @@ public final class PromiseTests {
         due("crash", x.crash() + text(x) + x.file() + x.sync() + x.mode(), 3 + "b|c|d" + 2 + -1 + 0);
         due("behind a crash", type(x, "u") + type(x, ".") + type(x, "p") + x.buffer(), "111" + -1);
         due("the file stays", stored(x), "c|d");
+        due("nothing is held", x.held(0, 0), 0);
+        due("a line as the first change", last(x, ":%s/[bc]/x/" + ENTER + "u") + text(x), "0" + "b|c|d");
         type(x, "x:pre" + ENTER);
         x.sync();
         due("a job that was not done", x.crash() + text(x), 3 + "b|c|d");
@@ -591,10 +625,16 @@ public final class PromiseTests {
         due("nothing differs", x.crash() + x.sent(), 1 + sent);
         type(x, "3");
         x.crash();
+        due("the last key", type(x, "i~") + text(x) + x.cell(0, 0), "00~" + 126);
+        x.crash();
         due("an unfinished command is dropped", type(x, "$"), "0");
         type(x, ":1");
         x.crash();
-        due("a prompt has ended", x.mode() + type(x, ":" + ENTER), 0 + "00");
+        type(x, "oa" + ESC);
+        due("a prompt has ended", x.mode() + type(x, ":" + ENTER) + x.cursor(), 0 + "00" + 32);
+        type(x, "yy:1");
+        x.crash();
+        due("nothing is held", "" + x.buffer() + x.held(0, 0), "-10");
         KeyScreen y = new KeyScreen(5);
         type(y, "i1" + ENTER + "2" + ENTER + "3" + ENTER + "4" + ENTER + "5" + ENTER + "6" + ESC);
         due("top", y.top(), 1);
