@@ -14,10 +14,16 @@ public final class LanguageRules {
         "int key(int)", "int length(int)", "int letter(int,int)", "int lines()", "int mode()", "boolean resize(int)",
         "int sent()", "int stored(int,int)", "int sync()", "int top()",
     };
-    private static final String[] REFUSED = {
-        "\\bthrow\\b", "\\btry\\b", "\\bcatch\\b", "\\bsynchronized\\b", "\\bassert\\b", "->", "::", "\\bprotected\\b",
-        "\\bpackage\\b", "\\bnative\\b", "\\bvolatile\\b", "\\.hashCode\\(", "\\.toString\\(", "Exact\\(", "\\bSystem\\.(?!arraycopy)",
-        "\\bimport (?!java\\.util\\.(Arrays|ArrayList|List|Iterator);)", "static \\{",
+    /** What a rule refuses, as a regular expression over the source without its comments. */
+    private static final String[][] REFUSED = {
+        {"1", "\\bpackage\\b|\\bprotected\\b"},
+        {"2", "(?m)^(?!\\s*(case|default)\\b).*->|::"},
+        {"3", "\\b(Object|Map|Set|HashMap|HashSet|Long|Character|Optional|Stream|BigInteger) \\w+|\\[\\]\\[\\]\\["},
+        {"4", "\\bimport (?!java\\.util\\.(Arrays|ArrayList|List|Iterator);)|\\bString\\.\\w+\\(|\\.split\\(|Exact\\("},
+        {"4", "\\bSystem\\.(?!arraycopy\\()|\\bArrays\\.(?!(copyOf|copyOfRange|fill)\\()"},
+        {"5", "static \\{|static (?!final|class|record|enum|interface|abstract)[\\w\\[\\]]+ \\w+( =|;)"},
+        {"6", "\\b(throw|throws|try|catch|synchronized|assert)\\b|\\.hashCode\\("},
+        {"13", "\\b(Random|Thread|Runtime|Process|File|Files|Socket)\\b|Math\\.random"},
     };
     private static int wrong = 0;
 
@@ -93,10 +99,10 @@ public final class LanguageRules {
     private static void checkSource() throws Exception {
         String source = Files.readString(Path.of("src/main/java/KeyScreen.java"));
         String bare = source.replaceAll("(?s)/\\*.*?\\*/", "").replaceAll("//.*", "");
-        for (String refused : REFUSED) {
-            Matcher m = Pattern.compile(refused).matcher(bare);
+        for (String[] refused : REFUSED) {
+            Matcher m = Pattern.compile(refused[1]).matcher(bare);
             if (m.find()) {
-                refuse("refused in the source: " + m.group());
+                refuse("rule " + refused[0] + ": " + m.group());
             }
         }
         int length = 0;

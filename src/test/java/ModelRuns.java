@@ -5,7 +5,8 @@ import java.util.Random;
 
 /**
  * Random runs, the same ones each time, of the program beside a model: the document once more, told with strings,
- * lists and regular expressions, and with no thought for room or speed. After each call every answer is compared.
+ * lists and regular expressions, and with no thought for room or speed. Each call's answer is compared, some of what
+ * the object then looks like, and at some points of a run all of it.
  * Arguments, if any: the first seed and the number of runs.
  */
 public final class ModelRuns {
@@ -925,125 +926,211 @@ public final class ModelRuns {
         }
     }
 
-    private static String state(KeyScreen x) {
-        StringBuilder all = new StringBuilder();
-        all.append(x.mode()).append(' ').append(x.lines()).append(' ').append(x.cursor()).append(' ');
-        all.append(x.buffer()).append(' ').append(x.file()).append(' ').append(x.top()).append(' ').append(x.sent());
-        for (int i = -1; i < 11; i++) {
-            all.append('\n').append(x.length(i)).append('|');
-            for (int j = -1; j < 21; j++) {
-                all.append((char) x.letter(i, j));
-            }
-            all.append('|');
-            for (int j = -1; j < 21; j++) {
-                all.append((char) x.held(i, j));
-            }
-            all.append('|');
-            for (int j = -1; j < 21; j++) {
-                all.append((char) x.stored(i, j));
-            }
-            all.append('|');
-            for (int j = -1; j < 21; j++) {
-                all.append((char) x.cell(i, j));
+    /** A call, its argument, and what the model answered and looked like then. */
+    private static final class Call {
+        final String name;
+        final int argument;
+        long due;
+        int[] looks;
+
+        Call(String name, int argument) {
+            this.name = name;
+            this.argument = argument;
+        }
+
+        long make(KeyScreen x) {
+            switch (name) {
+                case "key": return x.key(argument);
+                case "resize": return x.resize(argument) ? 1 : 0;
+                case "sync": return x.sync();
+                default: return x.crash();
             }
         }
-        return all.toString();
+
+        long make(Model x) {
+            switch (name) {
+                case "key": return x.key(argument);
+                case "resize": return x.resize(argument) ? 1 : 0;
+                case "sync": return x.sync();
+                default: return x.crash();
+            }
+        }
+
+        @Override
+        public String toString() {
+            boolean isShown = name.equals("key") && argument >= 32 && argument < 127;
+            return name + "(" + argument + ")" + (isShown ? " " + (char) argument : "") + " due " + due;
+        }
     }
 
-    private static String state(Model x) {
-        StringBuilder all = new StringBuilder();
+    /** An object is used for at most 512 calls, so a run has fewer, and each part is looked at on an object of its own. */
+    private static final int CALLS = 150;
+    private static final int CUTS = 3;
+    private static final String[] LOOKS = {"mode", "lines", "cursor", "buffer", "file", "top", "sent"};
+    private static final String[] PARTS = {"letter", "held", "stored", "cell"};
+
+    private static int look(KeyScreen x, int which) {
+        switch (LOOKS[which]) {
+            case "mode": return x.mode();
+            case "lines": return x.lines();
+            case "cursor": return x.cursor();
+            case "buffer": return x.buffer();
+            case "file": return x.file();
+            case "top": return x.top();
+            default: return x.sent();
+        }
+    }
+
+    private static int[] looks(Model x) {
         int held = x.held == null ? -1 : x.heldAreLines ? x.held.size() : 0;
-        all.append(x.mode).append(' ').append(x.text.size()).append(' ').append(x.line * 32 + x.column).append(' ');
-        all.append(held).append(' ').append(x.file == null ? -1 : x.file.size()).append(' ');
-        all.append(x.top).append(' ').append(x.sent);
-        for (int i = -1; i < 11; i++) {
-            all.append('\n').append(i < 0 || i >= x.text.size() ? -1 : x.text.get(i).length()).append('|');
-            for (int j = -1; j < 21; j++) {
-                all.append(Model.at(x.text, i, j));
-            }
-            all.append('|');
-            for (int j = -1; j < 21; j++) {
-                all.append(Model.at(x.held, i, j));
-            }
-            all.append('|');
-            for (int j = -1; j < 21; j++) {
-                all.append(Model.at(x.file, i, j));
-            }
-            all.append('|');
-            for (int j = -1; j < 21; j++) {
-                all.append(Model.at(Arrays.asList(x.terminal), i, j));
+        return new int[] {x.mode, x.text.size(), x.line * 32 + x.column, held, x.file == null ? -1 : x.file.size(), x.top, x.sent};
+    }
+
+    private static int one(KeyScreen x, String part, int i, int j) {
+        switch (part) {
+            case "letter": return x.letter(i, j);
+            case "held": return x.held(i, j);
+            case "stored": return x.stored(i, j);
+            default: return x.cell(i, j);
+        }
+    }
+
+    private static String part(KeyScreen x, String part) {
+        StringBuilder all = new StringBuilder();
+        for (int i = -1; i <= 10; i++) {
+            all.append('\n').append(part.equals("letter") ? x.length(i) : 0).append(':');
+            for (int j = -1; j <= 20; j++) {
+                all.append((char) one(x, part, i, j));
             }
         }
         return all.toString();
     }
 
-    private static final int[] USED = new int[8];
+    private static String part(Model x, String part) {
+        List<String> from = part.equals("letter") ? x.text : part.equals("held") ? x.held
+                : part.equals("stored") ? x.file : Arrays.asList(x.terminal);
+        StringBuilder all = new StringBuilder();
+        for (int i = -1; i <= 10; i++) {
+            int length = i < 0 || i >= x.text.size() ? -1 : x.text.get(i).length();
+            all.append('\n').append(part.equals("letter") ? length : 0).append(':');
+            for (int j = -1; j <= 20; j++) {
+                all.append(Model.at(from, i, j));
+            }
+        }
+        return all.toString();
+    }
+
+    /** Some runs begin with a text near its limits. */
+    private static String opening(Random random) {
+        if (random.nextInt(3) != 0) {
+            return "";
+        }
+        StringBuilder line = new StringBuilder();
+        for (int n = 2 + random.nextInt(4); n > 0; n--) {
+            line.append(letters(random));
+        }
+        return "i" + line + ESC + "yy" + "p".repeat(random.nextInt(10));
+    }
+
+    private static Call next(Random random) {
+        switch (random.nextInt(40)) {
+            case 0: return new Call("resize", random.nextInt(25));
+            case 1: return random.nextInt(4) == 0 ? new Call("crash", 0) : new Call("sync", 0);
+            case 2:
+            case 3:
+            case 4:
+            case 5:
+            case 6: return new Call("sync", 0);
+            default: return null;
+        }
+    }
+
+    private static void add(List<Call> calls, Call call, Model model) {
+        call.due = call.make(model);
+        call.looks = looks(model);
+        calls.add(call);
+    }
+
+    private static boolean isWrong(long seed, List<Call> calls, int made, String what, Object got, Object due) {
+        if (due.equals(got)) {
+            return false;
+        }
+        System.out.println("seed " + seed + ":");
+        for (int i = 0; i < made; i++) {
+            System.out.println("  " + calls.get(i));
+        }
+        System.out.println(what + " answered " + (got + "").replace((char) 0, '`') + ", due is " + (due + "").replace((char) 0, '`'));
+        return true;
+    }
+
+    private static boolean isPartWrong(long seed, int width, List<Call> calls, int cut, String part, String due) {
+        KeyScreen x = new KeyScreen(width);
+        for (int i = 0; i < cut; i++) {
+            calls.get(i).make(x);
+        }
+        return isWrong(seed, calls, cut, part, part(x, part), due);
+    }
+
+    private static boolean areAnswersWrong(long seed, int width, List<Call> calls) {
+        KeyScreen x = new KeyScreen(width);
+        for (int i = 0; i < calls.size(); i++) {
+            Call call = calls.get(i);
+            if (isWrong(seed, calls, i + 1, "that call", call.make(x), call.due)) {
+                return true;
+            }
+            // Two of them after each call keep the object below its 512 calls.
+            int first = i % LOOKS.length;
+            int second = (i + 3) % LOOKS.length;
+            if (isWrong(seed, calls, i + 1, LOOKS[first], look(x, first), call.looks[first])
+                    || isWrong(seed, calls, i + 1, LOOKS[second], look(x, second), call.looks[second])) {
+                return true;
+            }
+        }
+        return false;
+    }
 
     private static boolean run(long seed) {
         Random random = new Random(seed);
         int width = random.nextInt(24);
-        KeyScreen x = new KeyScreen(width);
         Model model = new Model(width);
-        StringBuilder told = new StringBuilder("new KeyScreen(" + width + ")");
-        for (int calls = 0; calls < 250; ) {
-            int chance = random.nextInt(40);
-            String keys = chance < 8 ? "" : keys(random, model.mode);
-            long got = 0;
-            long due = 0;
-            if (chance == 0) {
-                int w = random.nextInt(25);
-                told.append("\nresize(").append(w).append(")");
-                got = x.resize(w) ? 1 : 0;
-                due = model.resize(w) ? 1 : 0;
-            } else if (chance == 1 && random.nextInt(4) == 0) {
-                told.append("\ncrash()");
-                got = x.crash();
-                due = model.crash();
-            } else if (chance < 8) {
-                told.append("\nsync()");
-                got = x.sync();
-                due = model.sync();
+        List<Call> calls = new ArrayList<>();
+        List<Integer> cuts = new ArrayList<>();
+        for (int i = 1; i < CUTS; i++) {
+            cuts.add(1 + random.nextInt(CALLS));
+        }
+        cuts.add(CALLS);
+        String keys = opening(random);
+        while (calls.size() < CALLS) {
+            Call other = keys.isEmpty() ? next(random) : null;
+            if (other != null) {
+                add(calls, other, model);
+            } else if (keys.isEmpty()) {
+                keys = keys(random, model.mode);
+            } else {
+                add(calls, new Call("key", keys.charAt(0)), model);
+                keys = keys.substring(1);
             }
-            calls++;
-            for (int i = 0; i <= keys.length(); i++) {
-                if (got != due || !state(x).equals(state(model))) {
-                    System.out.println("seed " + seed + "\n" + told + "\nanswered " + got + ", due is " + due);
-                    System.out.println("the program:\n" + state(x).replace((char) 0, '`'));
-                    System.out.println("due:\n" + state(model).replace((char) 0, '`'));
-                    return false;
-                }
-                if (i < keys.length()) {
-                    int c = keys.charAt(i);
-                    told.append("\nkey(").append(c).append(") ").append(c >= 32 ? (char) c : ' ');
-                    got = x.key(c);
-                    due = model.key(c);
-                    calls++;
-                    if (i == keys.length() - 1 && keys.length() > 1 && keys.charAt(0) == ':') {
-                        USED[got == 0 ? 0 : 1]++;
-                    }
-                    if (i == keys.length() - 1 && keys.length() > 1 && keys.charAt(0) == '/') {
-                        USED[got == 0 ? 2 : 3]++;
-                    }
-                    if (keys.equals(".")) {
-                        USED[got == 0 ? 4 : 5]++;
+            if (cuts.contains(calls.size())) {
+                for (String part : PARTS) {
+                    if (isPartWrong(seed, width, calls, calls.size(), part, part(model, part))) {
+                        return false;
                     }
                 }
             }
         }
-        return true;
+        return !areAnswersWrong(seed, width, calls);
     }
 
     public static void main(String[] args) {
         long first = args.length > 0 ? Long.parseLong(args[0]) : 1;
-        int runs = args.length > 1 ? Integer.parseInt(args[1]) : 600;
+        int runs = args.length > 1 ? Integer.parseInt(args[1]) : 4000;
         int wrong = 0;
         for (int i = 0; i < runs && wrong < 3; i++) {
             if (!run(first + i)) {
                 wrong++;
             }
         }
-        System.out.println("command lines taken " + USED[0] + " and rung " + USED[1] + ", searches " + USED[2]
-                + " and " + USED[3] + ", periods " + USED[4] + " and " + USED[5]);
+        System.out.println(runs + " runs, " + wrong + " of them not as due");
         if (wrong != 0) {
             System.exit(1);
         }
