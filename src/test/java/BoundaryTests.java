@@ -230,6 +230,16 @@ public final class BoundaryTests {
         does("abc|", "/^$" + ENTER, "abc|", at(1, 0));
     }
 
+    @Says("MODES: COMMAND 0, INSERT 1, PROMPT 2")
+    private static void modes() {
+        KeyScreen x = new KeyScreen(10);
+        due("a new object", x.mode(), 0);
+        due("INSERT", type(x, "i") + x.mode() + type(x, ENTER) + x.mode() + type(x, ESC) + x.mode(), "01" + "01" + "00");
+        due("PROMPT", type(x, ":") + x.mode() + type(x, ESC) + x.mode() + type(x, "/") + x.mode() + type(x, ENTER) + x.mode(),
+                "02" + "00" + "02" + "10");
+        due("an unfinished command", type(x, "3d") + x.mode(), "00" + 0);
+    }
+
     @Says("KEYS are 32 .. 126, ESC 27, ENTER 10 and BACK 8")
     private static void whichCodesAreKeys() {
         for (int c = -40; c < 300; c++) {
@@ -534,6 +544,16 @@ public final class BoundaryTests {
         does("abcd", "l2dl", "ad", 1);
     }
 
+    @Says("before C, $: all from C on")
+    private static void allBeforeAndAllFromThere() {
+        does("abc", "$d0", "c", 0);
+        does("abc", "ld0", "bc", 0);
+        rings("abc", "", "d0");
+        does("abc", "d$", "", 0);
+        does("abc", "$d$", "ab", 1);
+        does("abc", "$y$P", "abcc", 2);
+    }
+
     @Says("w: from C to before the place where w leads, if it leads to one in L, otherwise (also when w rings) all from C on")
     private static void wordsToTheEndOfTheLine() {
         does("ab cd", "dw", "cd", 0);
@@ -670,6 +690,14 @@ public final class BoundaryTests {
         does("abcd", "l2ylp", "abbccd", 3);
         does("abcd", "2l2xP", "acdb", 2);
         does("abc", "2ylP", "ababc", 1);
+    }
+
+    @Says("the cursor at the last of them")
+    private static void theCursorBehindPutCharacters() {
+        does("abc", "ylp", "aabc", 1);
+        does("abc", "ylP", "aabc", 0);
+        does("abcdefghij", "y$P", "abcdefghijabcdefghij", 9);
+        does("|abc", "jy$kp", "abc|abc", 2);
     }
 
     @Says("or its lines, as new ones, below or above L, the cursor at column 0 of the first of them")
@@ -810,6 +838,17 @@ public final class BoundaryTests {
         does("a|b|c|d", "dd:d" + ENTER + ".", "d", 0);
         KeyScreen x = new KeyScreen(10);
         due("a line alone", type(x, ":s/^/ab/" + ENTER) + type(x, "."), "0".repeat(9) + "1");
+    }
+
+    @Says("the keys of the latest change (its count, all taken in INSERT, the ESC)")
+    private static void allKeysOfAChange() {
+        does("abcdefgh", "2x.", "efgh", 0);
+        does("abcdefghijklmnopqrst", "10x.", "", 0);
+        does("a|b|c|d|e", "2dd.", "e", 0);
+        does("a b c d", "2cwz" + ESC + "w.", "zc z", 3);
+        does("ab", "ixy" + BACK + "z" + ESC + "0.", "xzxzab", 1);
+        does("ab", "A" + ENTER + "c" + ESC + ".", "ab|c|c", at(2, 0));
+        due("ESC is worked, too", does("ab", "ix" + ESC + ".", "xxab", 0).mode(), 0);
     }
 
     @Says("(without those that rang")
@@ -1002,6 +1041,23 @@ public final class BoundaryTests {
         }
     }
 
+    @Says("BACK takes the last one out")
+    private static void backInAPrompt() {
+        does("a|b", ":22" + BACK + ENTER, "a|b", at(1, 0));
+        does("a|b", ":12" + BACK + BACK + "2" + ENTER, "a|b", at(1, 0));
+        does("a|b", "/" + "b".repeat(30) + BACK.repeat(29) + ENTER, "a|b", at(1, 0));
+    }
+
+    @Says(": and / begin a PROMPT")
+    private static void beginningsOfAPrompt() {
+        due("mode", does("a|b", "jx:", "a|", at(1, 0)).mode(), 2);
+        due("mode", does("a|b", "jx/", "a|", at(1, 0)).mode(), 2);
+        does("a/:b", "//" + ENTER, "a/:b", 1);
+        does("a/:b", "/:" + ENTER, "a/:b", 2);
+        rings("a/:b", "", "::" + ENTER);
+        does("a|a/b", ":/b/" + ENTER + "/b" + ENTER, "a|a/b", at(1, 2));
+    }
+
     @Says("ESC, and BACK when there is none, end it without more")
     private static void promptsThatEnd() {
         does("abc|d", "l:2" + ESC, "abc|d", 1);
@@ -1122,6 +1178,24 @@ public final class BoundaryTests {
         findsNothing("^^", "[^^]");
         finds("a-b", "[^-a]", 2);
         finds("abc", "[^c-b]", 1);
+    }
+
+    @Says("a backslash and a character (that one)")
+    private static void charactersBehindABackslash() {
+        for (char c : ".[]*^$\\/ab~ ".toCharArray()) {
+            finds("-" + c + "-", "\\" + c, 1);
+            finds("-" + c + c + "-", "\\" + c + "*-$", 1);
+        }
+        findsNothing("ab", "\\.");
+        findsNothing("ab", "\\$");
+    }
+
+    @Says("each perhaps with a * behind it")
+    private static void atomsWithAStar() {
+        for (String atom : new String[] {"b", ".", "[b]", "[^c]", "\\b", "[a-b]"}) {
+            does("cbbbbc", "/c" + ENTER + ":s/^c" + atom + "*c$/z/" + ENTER, "z", 0);
+            does("cc", ":s/^c" + atom + "*c$/z/" + ENTER, "z", 0);
+        }
     }
 
     @Says("(that one; also ] and ^ and a $ that is not the last character)")
@@ -1351,6 +1425,16 @@ public final class BoundaryTests {
 
     // The COMMAND line: its commands
 
+    @Says("Commands (CHANGES but for w, pre, and no command)")
+    private static void linesThatAreChanges() {
+        for (String line : new String[] {"w", "1w", "pre", "2", "", "%"}) {
+            does("abc|d", "lx:" + line + ENTER + "u", "abc|d", 1);
+        }
+        for (String line : new String[] {"d", "s/a/z/", "%s/a/z/g", "g/a/d", "g/a/s/a/z/", "g/a/s/q/z/"}) {
+            does("abc|d", "lx0:" + line + ENTER + "u", "ac|d", 0);
+        }
+    }
+
     @Says("nothing: the cursor goes to the last line of the range, column 0 (an empty line does nothing, and does not ring)")
     private static void noCommand() {
         lineDoes("abc|d", "2l", "", "abc|d", 2);
@@ -1448,6 +1532,16 @@ public final class BoundaryTests {
         lineDoes("ab|ba|cb", "", "g/^b/s/b/x/", "ab|xa|cb", at(1, 0));
         lineDoes("ab|bb|b", "", "g/a/s/.*/b/", "b|bb|b", 0);
         lineDoes("ab|cd", "", "g/b/s/b/d/", "ad|cd", 0);
+    }
+
+    @Says("then for each of them in order L is that line (where it stands then) and the command is done with it as its range")
+    private static void oneLineAfterAnother() {
+        lineDoes("aab|b|aab", "j", "g/a/s/a/x/", "xab|b|xab", at(2, 0));
+        lineDoes("aab|b|aab", "j", "g/a/s/a/x/g", "xxb|b|xxb", at(2, 0));
+        lineDoes("a|b|a|b", "", "g/a/d", "b|b", at(1, 0));
+        lineDoes("a|b|a|b", "", "g/b/d", "a|a", at(1, 0));
+        lineDoes("a|b|a|b", "G", "1,3g/a/d", "b|b", at(1, 0));
+        lineDoes("a|b|a|b", "G", "1,2g/a/d", "b|a|b", 0);
     }
 
     @Says("as if alone (d: the BUFFER has the last one)")
@@ -1803,6 +1897,14 @@ public final class BoundaryTests {
         }
     }
 
+    @Says("One empty line, the cursor at 0, 0, COMMAND")
+    private static void newObjects() {
+        KeyScreen x = new KeyScreen(20);
+        due("all of it", state(x), "mode 0 cursor 0 text <> buffer -1 <> file -1 top 0 sent 0");
+        due("lines", "" + x.lines() + x.length(0), "10");
+        due("an object beside it", type(x, "iab" + ESC) + text(new KeyScreen(20)), "0000");
+    }
+
     @Says("Answers 0, or 1 when it rings; -1, changing nothing, when c is no key")
     private static void noKeyChangesNothing() {
         for (String before : new String[] {"", "2", "d", "12y", "ix", ":s", "/a"}) {
@@ -1856,6 +1958,17 @@ public final class BoundaryTests {
         type(z, ":pre" + ENTER + ":2,10d" + ENTER);
         syncs(z, 11);
         due("ten lines are safe", z.lines() + "" + z.crash() + z.lines(), "1" + 10 + 10);
+    }
+
+    @Says("How many lines the text has")
+    private static void howManyLines() {
+        KeyScreen x = new KeyScreen(20);
+        for (int lines = 1; lines <= 10; lines++) {
+            due("lines", x.lines(), lines);
+            type(x, "o" + ESC);
+        }
+        due("no more", x.lines(), 10);
+        due("all taken out", type(x, ":%d" + ENTER) + x.lines(), "0000" + 1);
     }
 
     @Says("The length of a line; -1 when there is none")
@@ -1958,6 +2071,27 @@ public final class BoundaryTests {
         due("wider", "" + x.cell(0, 19) + x.cell(0, 20), "320");
         x.resize(5);
         due("narrower", x.cell(0, 5), 0);
+    }
+
+    @Says("From the line TOP on (0 at first)")
+    private static void topAtFirst() {
+        KeyScreen x = new KeyScreen(5);
+        due("a new object", x.top(), 0);
+        type(x, "i1" + ENTER + "2" + ENTER + "3" + ENTER + "4" + ENTER + "5");
+        due("five lines", x.top() + screen(x, 5), 0 + "1|2|3|4|5");
+        type(x, ENTER + "6");
+        due("six lines", x.top() + screen(x, 5), 1 + "2|3|4|5|6");
+        due("a crash", "" + x.crash() + x.top() + screen(x, 5), "10" + "|~|~|~|~");
+    }
+
+    @Says("How many characters were sent to the terminal so far")
+    private static void sentSoFar() {
+        KeyScreen x = new KeyScreen(5);
+        due("nothing at first", x.sent(), 0);
+        due("four rows with ~", type(x, "i") + x.sent(), "0" + 16);
+        due("a letter", type(x, "a") + x.sent(), "0" + 20);
+        due("a letter in a row of its own", type(x, ENTER + "b") + x.sent(), "00" + (20 + 4 + 4));
+        due("a blank before a letter", type(x, ESC + "O" + ESC) + x.sent(), "000" + (28 + 4 + 4));
     }
 
     @Says("An object is used for at most 512 calls after it has been made")
