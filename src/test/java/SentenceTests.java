@@ -1,17 +1,21 @@
 import java.lang.annotation.Retention;
 import java.lang.annotation.RetentionPolicy;
+import java.lang.reflect.Constructor;
 import java.lang.reflect.Method;
+import java.lang.reflect.Modifier;
 import java.nio.file.Files;
 import java.nio.file.Path;
 import java.util.Arrays;
+import java.util.BitSet;
 import java.util.Comparator;
+import java.util.TreeSet;
 
 /**
- * Each sentence of the document that names a boundary (too small, too large, empty, full, a wrap-around, a refused
- * call) with a test of its own, on objects of its own, none of which is used for more than 512 calls.
- * With the path of the document as argument, it also looks whether each sentence stands there.
+ * Each sentence of the document with a test of its own, on objects of its own, none of which is used for more than
+ * 512 calls. With the path of the document as argument, it also looks whether each sentence stands there, and whether
+ * there is a word of the promises that no test bears.
  */
-public final class BoundaryTests {
+public final class SentenceTests {
     /** The words of the document that a test holds the program to. */
     @Retention(RetentionPolicy.RUNTIME)
     private @interface Says {
@@ -270,7 +274,7 @@ public final class BoundaryTests {
 
     // COMMAND: counts
 
-    @Says("A command is a COUNT 1 .. 99 in decimal without leading zeros, or nothing")
+    @Says("COMMAND. A command is a COUNT 1 .. 99 in decimal without leading zeros")
     private static void countsFromOneTo99() {
         does(TWENTY, "1l", TWENTY, 1);
         does(TWENTY, "9l", TWENTY, 9);
@@ -432,7 +436,7 @@ public final class BoundaryTests {
         does("", "$", "", 0);
     }
 
-    @Says("G: the line with the number N counted from 1, without count the last one, column 0; rings if")
+    @Says("G: the line with the number N counted from 1, without count the last one, column 0; rings if there is none")
     private static void lineNumbers() {
         does("abc|def|ghi", "jl1G", "abc|def|ghi", 0);
         does("abc|def|ghi", "l3G", "abc|def|ghi", at(2, 0));
@@ -544,7 +548,7 @@ public final class BoundaryTests {
         does("abcd", "l2dl", "ad", 1);
     }
 
-    @Says("before C, $: all from C on")
+    @Says("0: all before C, $: all from C on")
     private static void allBeforeAndAllFromThere() {
         does("abc", "$d0", "c", 0);
         does("abc", "ld0", "bc", 0);
@@ -682,7 +686,7 @@ public final class BoundaryTests {
         does("a", "xp", "a", 0);
     }
 
-    @Says("puts the buffer's characters behind the character at the cursor, or before it")
+    @Says("p, P: puts the buffer's characters behind the character at the cursor, or before it")
     private static void putAtTheEnds() {
         does("abc", "2yl$p", "abcab", 4);
         does("abc", "2yl$P", "ababc", 3);
@@ -832,7 +836,7 @@ public final class BoundaryTests {
         due("u behind a crash", type(x, "u") + x.lines() + x.length(0), "1" + 1 + 0);
     }
 
-    @Says("but those by lines are worked again")
+    @Says("but those by lines are worked again as if typed")
     private static void thePeriodKnowsNoLines() {
         does("abcd", "x:s/b/z/" + ENTER + ".", "cd", 0);
         does("a|b|c|d", "dd:d" + ENTER + ".", "d", 0);
@@ -840,7 +844,7 @@ public final class BoundaryTests {
         due("a line alone", type(x, ":s/^/ab/" + ENTER) + type(x, "."), "0".repeat(9) + "1");
     }
 
-    @Says("the keys of the latest change (its count, all taken in INSERT, the ESC)")
+    @Says("A period (.): the keys of the latest change (its count, all taken in INSERT, the ESC)")
     private static void allKeysOfAChange() {
         does("abcdefgh", "2x.", "efgh", 0);
         does("abcdefghijklmnopqrst", "10x.", "", 0);
@@ -937,7 +941,7 @@ public final class BoundaryTests {
 
     // INSERT
 
-    @Says("A character is put in at the cursor, which moves on; rings if the line has 20")
+    @Says("INSERT. A character is put in at the cursor, which moves on; rings if the line has 20")
     private static void theTwentyFirstCharacter() {
         KeyScreen x = new KeyScreen(20);
         due("twenty", type(x, "i" + TWENTY), "0".repeat(21));
@@ -1016,7 +1020,7 @@ public final class BoundaryTests {
 
     // PROMPT
 
-    @Says("Characters come behind those typed, at most 30 (rings)")
+    @Says("PROMPT. Characters come behind those typed, at most 30 (rings)")
     private static void thirtyCharacters() {
         for (String begin : new String[] {":", "/"}) {
             KeyScreen x = with("ab|b");
@@ -1030,7 +1034,7 @@ public final class BoundaryTests {
         due("a line of thirty", type(y, line + "g" + ENTER) + text(y), "0".repeat(31) + "1" + "0" + "cdefg|b");
     }
 
-    @Says("Characters come behind those typed, at most 30 (rings)")
+    @Says("PROMPT. Characters come behind those typed, at most 30 (rings)")
     private static void fullPromptsThatBreakOff() {
         String set = "[" + "z".repeat(25) + "]";
         for (String line : new String[] {"/" + set + "zz\\", "/" + set + "zz[", "/" + set + "z[z", "/" + set + "z[^", "/" + set + "^*" + "*",
@@ -1091,7 +1095,7 @@ public final class BoundaryTests {
         rings(lines, "", "/" + pattern + ENTER);
     }
 
-    @Says("perhaps ^, then ATOMS, at most 8, perhaps $ as the last character; one of these at least")
+    @Says("PATTERNS: perhaps ^, then ATOMS, at most 8, perhaps $ as the last character; one of these at least")
     private static void eightAtoms() {
         finds("xabcdefgh", "abcdefgh", 1);
         finds("xabcdefgh", "abcdefgh$", 1);
@@ -1323,7 +1327,7 @@ public final class BoundaryTests {
         does(lines, before + ":" + line + ENTER, text, cursor);
     }
 
-    @Says("has a RANGE, then a command, and nothing else (no blanks between)")
+    @Says("A COMMAND line (begun with :) has a RANGE, then a command, and nothing else (no blanks between)")
     private static void nothingElseInALine() {
         for (String line : new String[] {" ", " d", "d ", "1 d", "1, 2d", "1 ,2d", "dd", "d1", "ww", "w1", "wq", "pre ", "prex", "pr", "p",
             "prew", "s/a/b/ ", "s/a/b/g ", "s/a/b/gg", "s/a/b/d", "g/a/d ", "g/a/ d", "g /a/d", "1,2,1d", "1d2", "x", "1x", "D", "ds", "%%",
@@ -1345,7 +1349,7 @@ public final class BoundaryTests {
         lineDoes("a|b|c", "j", "d", "a|c", at(1, 0));
     }
 
-    @Says("a number (of a line, counted from 1), a period (L), $ (the last line)")
+    @Says("An address is a number (of a line, counted from 1), a period (L), $ (the last line)")
     private static void addresses() {
         lineDoes("ab|cd|ef", "jl", "1", "ab|cd|ef", 0);
         lineDoes("ab|cd|ef", "jl", ".", "ab|cd|ef", at(1, 0));
@@ -1355,7 +1359,7 @@ public final class BoundaryTests {
         lineDoes("ab", "", "$,.d", "", 0);
     }
 
-    @Says("(the first of the lines behind L, from the first again and L as the last, in which it matches")
+    @Says("(the first of the lines behind L, from the first again and L as the last, in which it matches somewhere")
     private static void addressesByPattern() {
         lineDoes("ab|ac|ad", "j", "/a/", "ab|ac|ad", at(2, 0));
         lineDoes("ab|ac|ad", "G", "/a/", "ab|ac|ad", 0);
@@ -1499,7 +1503,7 @@ public final class BoundaryTests {
         lineDoes("abc", "", "s/.*/&&/", "abcabc", 0);
     }
 
-    @Says("it ends at the first / that is not")
+    @Says("it ends at the first / that is not behind such a backslash")
     private static void whereTheReplacementEnds() {
         lineDoes("abc", "", "s/b/\\//", "a/c", 0);
         lineDoes("abc", "", "s/b/\\\\/", "a\\c", 0);
@@ -1698,7 +1702,7 @@ public final class BoundaryTests {
         }
     }
 
-    @Says("but for the file, the safe text, the width, and what the")
+    @Says("but for the file, the safe text, the width, and what the terminal shows and was sent")
     private static void whatOutlivesACrash() {
         KeyScreen x = new KeyScreen(7);
         type(x, "iab" + ENTER + "c" + ESC + ":w" + ENTER + ":1pre" + ENTER);
@@ -1725,6 +1729,24 @@ public final class BoundaryTests {
         due("with one", x.crash() + text(x), 2 + "ab|c");
         type(x, "xdd:%s/c/zz/" + ENTER + "Onew" + ESC);
         due("changes don't touch it", x.crash() + text(x), 2 + "ab|c");
+    }
+
+    @Says("and the text is the safe text, if there is one, as new lines")
+    private static void safeTextsOfEachSize() {
+        String lines = "a";
+        for (int many = 1; many <= 10; many++) {
+            KeyScreen x = with(lines);
+            type(x, ":pre" + ENTER);
+            syncs(x, many + 1);
+            due("something that is lost", type(x, "xddix"), "00000");
+            due("a safe text of " + many + " lines", x.crash() + text(x) + x.cursor() + x.mode(), many + lines + 0 + 0);
+            lines += "|" + (char) ('a' + many);
+        }
+        KeyScreen y = new KeyScreen(10);
+        type(y, ":pre" + ENTER);
+        syncs(y, 2);
+        type(y, "iab" + ENTER + "c");
+        due("an empty safe text", y.crash() + text(y), 1 + "");
     }
 
     // THE WINDOW
@@ -1819,7 +1841,7 @@ public final class BoundaryTests {
         due("TOP follows behind all of it", type(y, ".") + text(y) + y.top(), "0" + "x|y|x|y|5|6|7|8" + 3);
     }
 
-    @Says("line is above TOP, TOP is that line")
+    @Says("when the cursor's line is above TOP, TOP is that line")
     private static void topGoesUp() {
         KeyScreen x = with(TEN_LINES);
         due("at the end", type(x, "G") + x.top(), "0" + 5);
@@ -1884,7 +1906,7 @@ public final class BoundaryTests {
 
     // The promises, with wrong inputs
 
-    @Says("the width is width, if that is 5 .. 20, otherwise 10")
+    @Says("the width is width, if that is 5 .. 20, otherwise 10.")
     private static void widthsOfNewObjects() {
         for (int width = -3; width < 40; width++) {
             int due = width >= 5 && width <= 20 ? width : 10;
@@ -1897,7 +1919,7 @@ public final class BoundaryTests {
         }
     }
 
-    @Says("One empty line, the cursor at 0, 0, COMMAND")
+    @Says("`KeyScreen(int width)`: One empty line, the cursor at 0, 0, COMMAND")
     private static void newObjects() {
         KeyScreen x = new KeyScreen(20);
         due("all of it", state(x), "mode 0 cursor 0 text <> buffer -1 <> file -1 top 0 sent 0");
@@ -1905,7 +1927,7 @@ public final class BoundaryTests {
         due("an object beside it", type(x, "iab" + ESC) + text(new KeyScreen(20)), "0000");
     }
 
-    @Says("Answers 0, or 1 when it rings; -1, changing nothing, when c is no key")
+    @Says("`int key(int c)`: Works a key. Answers 0, or 1 when it rings; -1, changing nothing, when c is no key")
     private static void noKeyChangesNothing() {
         for (String before : new String[] {"", "2", "d", "12y", "ix", ":s", "/a"}) {
             KeyScreen x = with("ab cd");
@@ -1921,7 +1943,7 @@ public final class BoundaryTests {
         due("an operator stays", type(y, "d") + y.key(127) + type(y, "d") + text(y), "0-10" + "e");
     }
 
-    @Says("Makes the width w and answers true; false, changing nothing, when w is not 5 .. 20")
+    @Says("`boolean resize(int w)`: Makes the width w and answers true; false, changing nothing, when w is not 5 .. 20")
     private static void widthsThatAreRefused() {
         for (int w = -3; w < 40; w++) {
             KeyScreen x = new KeyScreen(7);
@@ -1938,7 +1960,7 @@ public final class BoundaryTests {
         due("nothing has changed", state(y) + screen(y, 20), was);
     }
 
-    @Says("Writes a block and answers how many blocks wait then, of all jobs; -1 when none waited")
+    @Says("`int sync()`: Writes a block and answers how many blocks wait then, of all jobs; -1 when none waited")
     private static void blocksThatWait() {
         KeyScreen x = with("a|b");
         due("none waits", x.sync(), -1);
@@ -1946,7 +1968,7 @@ public final class BoundaryTests {
         due("of both jobs", "" + x.sync() + x.sync() + x.sync() + x.sync() + x.sync() + x.sync(), "43210-1");
     }
 
-    @Says("Crashes, and answers how many lines the text has then")
+    @Says("`int crash()`: Crashes, and answers how many lines the text has then")
     private static void linesBehindACrash() {
         KeyScreen x = with(TEN_LINES);
         due("without a safe text", x.crash() + "" + x.lines(), "11");
@@ -1960,7 +1982,7 @@ public final class BoundaryTests {
         due("ten lines are safe", z.lines() + "" + z.crash() + z.lines(), "1" + 10 + 10);
     }
 
-    @Says("How many lines the text has")
+    @Says("`int lines()`: How many lines the text has")
     private static void howManyLines() {
         KeyScreen x = new KeyScreen(20);
         for (int lines = 1; lines <= 10; lines++) {
@@ -1971,7 +1993,7 @@ public final class BoundaryTests {
         due("all taken out", type(x, ":%d" + ENTER) + x.lines(), "0000" + 1);
     }
 
-    @Says("The length of a line; -1 when there is none")
+    @Says("`int length(int line)`: The length of a line; -1 when there is none")
     private static void lengthsOfNoLine() {
         KeyScreen x = with("ab||" + TWENTY);
         due("length", "" + x.length(0) + x.length(1) + x.length(2) + x.length(3) + x.length(9) + x.length(10), "2020-1-1-1");
@@ -1982,7 +2004,7 @@ public final class BoundaryTests {
         due("of a line that is gone", x.length(2), -1);
     }
 
-    @Says("A character of a line; 0 when there is none")
+    @Says("`int letter(int line, int column)`: A character of a line; 0 when there is none")
     private static void lettersOfNoPlace() {
         KeyScreen x = with("ab||c");
         due("letter", "" + x.letter(0, 0) + x.letter(0, 1) + x.letter(0, 2) + x.letter(1, 0) + x.letter(2, 0) + x.letter(3, 0),
@@ -1995,7 +2017,7 @@ public final class BoundaryTests {
         due("behind the end of a line", "" + x.letter(0, 19) + x.letter(0, 20) + x.letter(0, 40), "000");
     }
 
-    @Says("The cursor: its line times 32 and its column (in INSERT it may be the length; in PROMPT as before)")
+    @Says("`int cursor()`: The cursor: its line times 32 and its column (in INSERT it may be the length; in PROMPT as before)")
     private static void cursors() {
         KeyScreen x = with(TWENTY);
         due("at the length", type(x, "A") + x.cursor(), "0" + 20);
@@ -2004,7 +2026,7 @@ public final class BoundaryTests {
         due("the last line", type(y, "GA") + y.cursor(), "00" + (9 * 32 + 1));
     }
 
-    @Says("What the buffer holds: the number of lines, 0 for characters; -1 when nothing was put into it")
+    @Says("`int buffer()`: What the buffer holds: the number of lines, 0 for characters; -1 when nothing was put into it")
     private static void whatTheBufferHolds() {
         KeyScreen x = with(TEN_LINES);
         due("nothing", x.buffer(), -1);
@@ -2015,7 +2037,7 @@ public final class BoundaryTests {
         due("characters again", type(x, "x") + x.buffer() + held(x), "0" + 0 + "1");
     }
 
-    @Says("A character of line i of the buffer (of its characters: i 0); 0 when there is none")
+    @Says("`int held(int i, int column)`: A character of line i of the buffer (of its characters: i 0); 0 when there is none")
     private static void heldOfNoPlace() {
         KeyScreen x = with("ab|c|d");
         due("nothing is held", "" + x.held(0, 0) + x.held(-1, 0), "00");
@@ -2030,7 +2052,7 @@ public final class BoundaryTests {
         due("an empty buffer's line", "" + x.buffer() + held(x), 1 + "ab");
     }
 
-    @Says("The number of lines of the file; -1 when there is none")
+    @Says("`int file()`: The number of lines of the file; -1 when there is none")
     private static void linesOfTheFile() {
         KeyScreen x = with("ab|c");
         due("none", x.file(), -1);
@@ -2043,7 +2065,7 @@ public final class BoundaryTests {
         due("two lines", x.file(), 2);
     }
 
-    @Says("A character of a line of the file; 0 when there is none")
+    @Says("`int stored(int line, int column)`: A character of a line of the file; 0 when there is none")
     private static void storedOfNoPlace() {
         KeyScreen x = with("ab||c");
         due("no file", "" + x.stored(0, 0) + x.stored(-1, -1), "00");
@@ -2058,7 +2080,7 @@ public final class BoundaryTests {
         }
     }
 
-    @Says("What the terminal shows in a cell; 0 when there is no such row or column")
+    @Says("`int cell(int row, int column)`: What the terminal shows in a cell; 0 when there is no such row or column")
     private static void cellsOfNoPlace() {
         KeyScreen x = new KeyScreen(5);
         type(x, "iab");
@@ -2084,7 +2106,7 @@ public final class BoundaryTests {
         due("a crash", "" + x.crash() + x.top() + screen(x, 5), "10" + "|~|~|~|~");
     }
 
-    @Says("How many characters were sent to the terminal so far")
+    @Says("`int sent()`: How many characters were sent to the terminal so far")
     private static void sentSoFar() {
         KeyScreen x = new KeyScreen(5);
         due("nothing at first", x.sent(), 0);
@@ -2094,7 +2116,7 @@ public final class BoundaryTests {
         due("a blank before a letter", type(x, ESC + "O" + ESC) + x.sent(), "000" + (28 + 4 + 4));
     }
 
-    @Says("An object is used for at most 512 calls after it has been made")
+    @Says("An object is used for at most 512 calls after it has been made; what later calls answer is free")
     private static void fiveHundredAndTwelveCalls() {
         KeyScreen x = new KeyScreen(5);
         for (int i = 0; i < 127; i++) {
@@ -2114,6 +2136,403 @@ public final class BoundaryTests {
         due("later calls end, whatever they answer", ended, 100000);
     }
 
+    // What names no boundary
+
+    @Says("A screen editor worked by keys: a text of lines, commands with counts, operators and motions, lines of commands with addresses "
+            + "and patterns, undo and repetition, a window that is kept up to date on a terminal, and a disk from which the text is recovered "
+            + "after a crash.")
+    private static void fromTheFirstKeyToTheCrash() {
+        KeyScreen x = new KeyScreen(8);
+        type(x, "ione two" + ENTER + "three" + ENTER + "four" + ESC);
+        due("a text of lines", text(x) + x.cursor(), "one two|three|four" + at(2, 3));
+        due("the window", screen(x, 8), "one two|three|four|~|~");
+        due("a count and a motion", type(x, "2k") + x.cursor(), "00" + 3);
+        due("an operator and a motion", type(x, "0dw") + text(x), "000" + "two|three|four");
+        due("repetition", type(x, ".") + text(x), "0" + "|three|four");
+        due("undo", type(x, "u") + text(x), "0" + "two|three|four");
+        String line = ":2,/our/s/[er]*$/&!/" + ENTER;
+        due("addresses and patterns", type(x, line) + text(x), "0".repeat(line.length()) + "two|three!|four!");
+        due("the window is kept up to date", screen(x, 8), "two|three!|four!|~|~");
+        due("the disk", type(x, ":pre" + ENTER) + x.sync() + x.sync() + x.sync() + x.sync(), "00000" + "3210");
+        due("something that is lost", type(x, "dd") + text(x), "00" + "two|three!");
+        due("recovery", x.crash() + text(x) + x.cursor(), 3 + "two|three!|four!" + 0);
+        due("the window then", screen(x, 8), "two|three!|four!|~|~");
+    }
+
+    @Says("public final class KeyScreen { public KeyScreen(int width); public int key(int c); public boolean resize(int w); public int sync(); "
+            + "public int crash(); public int mode(); public int lines(); public int length(int line); public int letter(int line, int column); "
+            + "public int cursor(); public int buffer(); public int held(int i, int column); public int file(); "
+            + "public int stored(int line, int column); public int cell(int row, int column); public int top(); public int sent(); }")
+    private static void theFace() {
+        TreeSet<String> face = new TreeSet<>();
+        for (Method method : KeyScreen.class.getDeclaredMethods()) {
+            if (Modifier.isPublic(method.getModifiers())) {
+                face.add(method.toString().replace("KeyScreen.", ""));
+            }
+        }
+        for (Constructor<?> constructor : KeyScreen.class.getConstructors()) {
+            face.add(constructor.toString());
+        }
+        String inside = sentence.substring(sentence.indexOf('{') + 2, sentence.length() - 3);
+        TreeSet<String> promised = new TreeSet<>(Arrays.asList(inside.replaceAll("int \\w+(?=[,)])", "int").replace(", ", ",").split("; ")));
+        due("constructors and methods", face, promised);
+        due("the class", Modifier.toString(KeyScreen.class.getModifiers()), "public final");
+    }
+
+    @Says("in COLUMNS 0, 1, ...")
+    private static void eachCodeInItsColumn() {
+        KeyScreen x = new KeyScreen(20);
+        type(x, "i");
+        for (int c = 126; c >= 32; c--) {
+            due("key " + c, x.key(c), 0);
+            if ((126 - c) % 19 == 18 && c > 32) {
+                type(x, ENTER);
+            }
+        }
+        for (int c = 126; c >= 32; c--) {
+            int line = (126 - c) / 19;
+            int column = (126 - c) % 19;
+            due("letter(" + line + ", " + column + ")", x.letter(line, column), c);
+        }
+    }
+
+    @Says("The CURSOR is at a line and a column.")
+    private static void eachPlaceOfTheCursor() {
+        KeyScreen x = with("abc|def|ghi");
+        for (int line = 0; line < 3; line++) {
+            due("line " + line, type(x, (line + 1) + "G") + x.cursor(), "00" + at(line, 0));
+            due("the next column", type(x, "l") + x.cursor(), "0" + at(line, 1));
+            due("the last column", type(x, "l") + x.cursor(), "0" + at(line, 2));
+        }
+    }
+
+    private static final String THREE = "ab cd|ef gh|ij kl";
+
+    /** A command from line 1, column 3 of a text of three lines. */
+    private static void fromTheMiddle(String keys, String text, int line, int column, int mode) {
+        due(keys + " mode", does(THREE, "j3l" + keys, text, at(line, column)).mode(), mode);
+    }
+
+    @Says("or nothing, and then one of the following")
+    private static void eachCommand() {
+        fromTheMiddle("x", "ab cd|ef h|ij kl", 1, 3, 0);
+        fromTheMiddle("x.", "ab cd|ef |ij kl", 1, 2, 0);
+        fromTheMiddle("xu", THREE, 1, 3, 0);
+        fromTheMiddle("ylp", "ab cd|ef ggh|ij kl", 1, 4, 0);
+        fromTheMiddle("ylP", "ab cd|ef ggh|ij kl", 1, 3, 0);
+        fromTheMiddle("i", THREE, 1, 3, 1);
+        fromTheMiddle("a", THREE, 1, 4, 1);
+        fromTheMiddle("I", THREE, 1, 0, 1);
+        fromTheMiddle("A", THREE, 1, 5, 1);
+        fromTheMiddle("o", "ab cd|ef gh||ij kl", 2, 0, 1);
+        fromTheMiddle("O", "ab cd||ef gh|ij kl", 1, 0, 1);
+        fromTheMiddle(":", THREE, 1, 3, 2);
+        fromTheMiddle("/", THREE, 1, 3, 2);
+    }
+
+    @Says("L, C are the cursor's line and column.")
+    private static void eachMotionFromTheCursor() {
+        fromTheMiddle("h", THREE, 1, 2, 0);
+        fromTheMiddle("l", THREE, 1, 4, 0);
+        fromTheMiddle("j", THREE, 2, 3, 0);
+        fromTheMiddle("k", THREE, 0, 3, 0);
+        fromTheMiddle("0", THREE, 1, 0, 0);
+        fromTheMiddle("$", THREE, 1, 4, 0);
+        fromTheMiddle("G", THREE, 2, 0, 0);
+        fromTheMiddle("w", THREE, 2, 0, 0);
+        fromTheMiddle("b", THREE, 1, 0, 0);
+    }
+
+    @Says("MOTIONS (with count but for 0 and $):")
+    private static void eachMotionWithACount() {
+        fromTheMiddle("2h", THREE, 1, 1, 0);
+        fromTheMiddle("02l", THREE, 1, 2, 0);
+        fromTheMiddle("k2j", THREE, 2, 3, 0);
+        fromTheMiddle("j2k", THREE, 0, 3, 0);
+        fromTheMiddle("1G", THREE, 0, 0, 0);
+        fromTheMiddle("2w", THREE, 2, 3, 0);
+        fromTheMiddle("2b", THREE, 0, 3, 0);
+        rings(THREE, "j3l", "2$");
+        does(TWENTY, "$10h", TWENTY, 9);
+    }
+
+    @Says("OPERATORS d, c, y (with count) and behind them:")
+    private static void eachOperatorWithACount() {
+        String[] left = {"adef", "adef", "abcdef"};
+        String[] leftLines = {"c", "|c", "a|b|c"};
+        for (int i = 0; i < 3; i++) {
+            char operator = "dcy".charAt(i);
+            int mode = operator == 'c' ? 1 : 0;
+            KeyScreen x = does("abcdef", "l2" + operator + "l", left[i], 1);
+            due(operator + " characters", x.buffer() + held(x) + x.mode(), 0 + "bc" + mode);
+            KeyScreen y = does("a|b|c", "2" + operator + operator, leftLines[i], 0);
+            due(operator + " lines", y.buffer() + held(y) + y.mode(), 2 + "a|b" + mode);
+        }
+    }
+
+    @Says("h, l, 0, $, w, b: CHARACTERS of line L:")
+    private static void eachMotionWithCharacters() {
+        String[][] held = {{"h", " "}, {"l", "g"}, {"0", "ef "}, {"$", "gh"}, {"w", "gh"}, {"b", "ef "}};
+        for (String[] motion : held) {
+            KeyScreen x = does(THREE, "j3ly" + motion[0], THREE, at(1, 3));
+            due("y" + motion[0], x.buffer() + held(x), 0 + motion[1]);
+        }
+        fromTheMiddle("dh", "ab cd|efgh|ij kl", 1, 2, 0);
+        fromTheMiddle("dl", "ab cd|ef h|ij kl", 1, 3, 0);
+        fromTheMiddle("d0", "ab cd|gh|ij kl", 1, 0, 0);
+        fromTheMiddle("d$", "ab cd|ef |ij kl", 1, 2, 0);
+        fromTheMiddle("dw", "ab cd|ef |ij kl", 1, 2, 0);
+        fromTheMiddle("db", "ab cd|gh|ij kl", 1, 0, 0);
+    }
+
+    @Says("d takes them out as well")
+    private static void takenOutAndHeld() {
+        KeyScreen x = does("abcdef", "l3dl", "aef", 1);
+        due("characters", x.buffer() + held(x), 0 + "bcd");
+        KeyScreen y = does("ab|cd|ef", "2dd", "ef", 0);
+        due("lines", y.buffer() + held(y), 2 + "ab|cd");
+        does("ab|cd|ef", "ddjp", "cd|ef|ab", at(2, 0));
+    }
+
+    @Says("and lines (below) where it is said")
+    private static void changesByLines() {
+        for (String line : new String[] {"d", "s/b/x/", "s/b/x/g", "g/b/d", "g/b/s/b/x/"}) {
+            does("ab|cd", ":" + line + ENTER + "u", "ab|cd", 0);
+        }
+        for (String line : new String[] {"w", "pre", "1", ""}) {
+            KeyScreen x = new KeyScreen(10);
+            due(line + " keeps nothing", type(x, ":" + line + ENTER + "u"), "0".repeat(line.length() + 2) + "1");
+        }
+    }
+
+    @Says("(a SET, read from the left")
+    private static void setsFromTheLeft() {
+        finds("xd-", "[a-c-e]", 2);
+        finds("xde", "[a-c-e]", 2);
+        finds("x,.", "[--0]", 2);
+        finds("xbc-", "[b-a-c]", 2);
+        finds("xb-", "[^b-ax]", 1);
+    }
+
+    @Says("or another character but *")
+    private static void otherCharacters() {
+        for (char c = ' '; c <= '~'; c++) {
+            if (".[\\*".indexOf(c) < 0) {
+                KeyScreen x = new KeyScreen(20);
+                due(c + " is found", type(x, "iqz" + c + "y" + ESC + "0/z" + c + "y" + ENTER) + x.cursor(), "0".repeat(12) + 1);
+                findsNothing("qz" + (c == 'm' ? 'n' : 'm') + "y", "z" + c + "y");
+            }
+        }
+    }
+
+    @Says("if the characters from p to before q are parted to the atoms in order")
+    private static void atomsInOrder() {
+        finds("ba ab", "ab", 3);
+        findsNothing("ba", "ab");
+        findsNothing("cab", "a.b");
+        lineDoes("abab", "", "s/a*b*$/z/", "abz", 0);
+        lineDoes("ababb", "", "s/[ab]*a/z/", "zbb", 0);
+        lineDoes("aab", "", "s/a*ab/z/", "z", 0);
+    }
+
+    @Says("A SEARCH line (begun with /) is a pattern: the cursor goes to the first place")
+    private static void searches() {
+        finds("ab cb", "b", 1);
+        finds("ab|cd|ed", "d", at(1, 1));
+        finds("ab /c", "/c", 3);
+        finds("ab 1,2d", "1,2d", 3);
+        finds("ab s/a/b/", "s/a/b/", 3);
+        finds("a|b|c", "[c]", at(2, 0));
+    }
+
+    @Says("or a pattern between / and /")
+    private static void patternsAsAddresses() {
+        lineDoes("ab|cd|ef", "", "/e/", "ab|cd|ef", at(2, 0));
+        lineDoes("ab|cd|ef", "", "/c/d", "ab|ef", at(1, 0));
+        lineDoes("ab|cd|ef", "", "/c/,/e/d", "ab", 0);
+        lineDoes("ab|cd|ef", "", "/^c.$/s/d/x/", "ab|cx|ef", at(1, 0));
+        lineRings("ab|cd|ef", "", "/e");
+        lineRings("ab|cd|ef", "", "e/");
+        lineRings("ab|cd|ef", "", "//");
+    }
+
+    @Says("s/pattern/REPLACEMENT/ or the same with g behind it:")
+    private static void exchangesWithAndWithoutG() {
+        lineDoes("abab", "", "s/a/x/", "xbab", 0);
+        lineDoes("abab", "", "s/a/x/g", "xbxb", 0);
+        lineDoes("abab|aa", "", "%s/a/x/", "xbab|xa", at(1, 0));
+        lineDoes("abab|aa", "", "%s/a/x/g", "xbxb|xx", at(1, 0));
+        lineRings("abab", "", "s/a/x/G");
+    }
+
+    @Says("is exchanged for the replacement")
+    private static void longerAndShorterReplacements() {
+        lineDoes("abcd", "", "s/bc/xyz/", "axyzd", 0);
+        lineDoes("abcd", "", "s/bc/x/", "axd", 0);
+        lineDoes("abcd", "", "s/d/xy/", "abcxy", 0);
+        lineDoes("abcd", "", "s/^/xy/", "xyabcd", 0);
+        lineDoes("abcd|efgh", "", "%s/../x/", "xcd|xgh", at(1, 0));
+    }
+
+    @Says("the pattern of s and g at the next /")
+    private static void patternsOfExchangesEndAtTheNextSlash() {
+        for (String line : new String[] {"s/[/]/x/", "s/\\//x/", "g/[/]/d", "g/\\//d", "g/\\//s/a/x/", "g/a/s/[/]/x/"}) {
+            lineRings("a/b", "", line);
+        }
+        lineDoes("a/b", "", "s/[.-0]b/x/", "ax", 0);
+        lineDoes("a/b", "", "g/[.-0]/s/a/x/", "x/b", 0);
+    }
+
+    @Says("its characters one after the other")
+    private static void charactersOverRows() {
+        KeyScreen x = new KeyScreen(5);
+        type(x, "iabcdefghijkl" + ENTER + "mn" + ESC);
+        due("three rows and one", screen(x, 5), "abcde|fghij|kl|mn|~");
+        due("taken out at the beginning", type(x, "1Gx") + screen(x, 5), "000" + "bcdef|ghijk|l|mn|~");
+    }
+
+    @Says("`int mode()`: The mode.")
+    private static void theModeInEachState() {
+        for (String keys : new String[] {"", "3", "d", "i" + ESC, ":" + ESC, "/" + BACK, "x"}) {
+            KeyScreen x = new KeyScreen(10);
+            type(x, keys);
+            due("COMMAND behind " + keys, x.mode(), 0);
+        }
+        for (String keys : new String[] {"i", "a", "I", "A", "o", "O", "cc", "ix", "i" + ENTER, "i" + BACK}) {
+            KeyScreen x = new KeyScreen(10);
+            type(x, keys);
+            due("INSERT behind " + keys, x.mode(), 1);
+        }
+        for (String keys : new String[] {":", "/", ":d", "/a", "/a" + BACK}) {
+            KeyScreen x = new KeyScreen(10);
+            type(x, keys);
+            due("PROMPT behind " + keys, x.mode(), 2);
+        }
+    }
+
+    @Says("`int top()`: TOP.")
+    private static void topFollowsTheCursor() {
+        KeyScreen x = with(TEN_LINES);
+        int[] tops = {0, 0, 0, 0, 0, 1, 2, 3, 4, 5};
+        for (int line = 0; line < 10; line++) {
+            type(x, line == 0 ? "1G" : "j");
+            due("top at line " + line, x.top(), tops[line]);
+        }
+        for (int line = 8; line >= 0; line--) {
+            type(x, "k");
+            due("top at line " + line + " again", x.top(), Math.min(5, line));
+        }
+    }
+
+    // Lines, columns and lengths that are all unlike, so that none can be taken for another
+
+    @Says("or a limit of the text is passed")
+    private static void limitsOfTheCursorsLine() {
+        does("abc|" + TWENTY + "|xyz", "Glylp", "abc|" + TWENTY + "|xyyz", at(2, 2));
+        does("abc|" + TWENTY + "|xyz", "GlylP", "abc|" + TWENTY + "|xyyz", at(2, 1));
+        does("ab|" + NINETEEN, "j3lylp", "ab|abcddefghijklmnopqrs", at(1, 4));
+        rings("ab|" + TWENTY, "j3lyl", "p");
+        rings("ab|" + TWENTY, "j3lyl", "P");
+        rings(TWENTY, "5lyl", "p");
+        rings(TWENTY + "|ab", "5lyl", "P");
+    }
+
+    @Says("[ and what is up to the next ] behind at least one character")
+    private static void setsWithinLines() {
+        lineDoes("[^/sab", "", "s/[^s]/x/", "x^/sab", 0);
+        lineDoes("[^/sab", "", "s/[^b]/x/g", "xxxxxb", 0);
+        lineDoes("[/s^ab", "", "s/[ab]/x/g", "[/s^xx", 0);
+        lineDoes("[/s^ab", "", "1s/s*[^a]/x/g", "xxxax", 0);
+        finds("a^", "a*[^x]", 1);
+        finds("ab[", "\\b[^x]", 1);
+    }
+
+    @Says("up to the cursor's itself (found there alone nothing moves)")
+    private static void backToTheCursor() {
+        does("abcdef", "$/e" + ENTER, "abcdef", 4);
+        does("abcdef", "$/f" + ENTER, "abcdef", 5);
+        does("abcdef|x", "$/d" + ENTER, "abcdef|x", 3);
+        does("abcdef|x", "$/f" + ENTER, "abcdef|x", 5);
+        rings("abcdef|x", "2l", "/g" + ENTER);
+        does("ab|cdefg|h", "j3l/d" + ENTER, "ab|cdefg|h", at(1, 1));
+        does("ab|cdefg|h", "j3l/f" + ENTER, "ab|cdefg|h", at(1, 3));
+    }
+
+    @Says("behind as many blanks as L (before it is parted) begins with")
+    private static void enterBehindWhatWasTyped() {
+        does("  ab", "Ixy" + ENTER, "  xy|  ab", at(1, 2));
+        does("  ab", "Axy" + ENTER + "z", "  abxy|  z", at(1, 3));
+        does("  abcd", "3li12" + ENTER + ENTER + "3", "  a12|  |  3bcd", at(2, 3));
+        does("x|   abcd", "jA1" + ENTER + "2" + ENTER, "x|   abcd1|   2|   ", at(3, 3));
+    }
+
+    @Says("at column 0 or of another kind than the one before it")
+    private static void stopsAtColumnNought() {
+        does("a|.b", "w", "a|.b", at(1, 0));
+        does("a|b.", "w", "a|b.", at(1, 0));
+        does("(a", "$b", "(a", 0);
+        does("(a|b", "j2b", "(a|b", 0);
+        does("((|))|aa", "w", "((|))|aa", at(1, 0));
+        does("((|))|aa", "2w", "((|))|aa", at(2, 0));
+        does("aa|bb|cc", "G2b", "aa|bb|cc", 0);
+    }
+
+    @Says("of lines: at the line that is behind them then (the last one if there is none), column 0")
+    private static void linesOfUnlikeLengths() {
+        does("a|bb|ccc|dddd|eeeee", "2dd", "ccc|dddd|eeeee", 0);
+        does("a|bb|ccc|dddd|eeeee", "j2dd", "a|dddd|eeeee", at(1, 0));
+        does("a|bb|ccc|dddd|eeeee", "jdG", "a", 0);
+        does("eeeee|dddd|ccc|bb|a", "3Gdk", "eeeee|bb|a", at(1, 0));
+        does("a|bb|ccc|dddd|eeeee", "j3cc", "a||eeeee", at(1, 0));
+        does("a|bb|ccc|dddd|eeeee", "j2yyP", "a|bb|ccc|bb|ccc|dddd|eeeee", at(1, 0));
+        does("a|bb|ccc|dddd|eeeee", "j2yyp", "a|bb|bb|ccc|ccc|dddd|eeeee", at(2, 0));
+        does("a|bb|ccc|dddd|eeeee", "jox" + ESC, "a|bb|x|ccc|dddd|eeeee", at(2, 0));
+        does("a|bb|ccc|dddd|eeeee", ":2,4d" + ENTER, "a|eeeee", at(1, 0));
+        does("a|bb|ccc|dddd|eeeee", ":g/[bd]/d" + ENTER, "a|ccc|eeeee", at(2, 0));
+    }
+
+    @Says("d: as dd, of the range")
+    private static void theBufferHasTheRange() {
+        String[][] ranges = {{"2,3", "bb|ccc"}, {"3", "ccc"}, {"2,$", "bb|ccc|dddd"}, {".,2", "a|bb"}, {"$", "dddd"}, {"%", "a|bb|ccc|dddd"}};
+        for (String[] range : ranges) {
+            KeyScreen x = with("a|bb|ccc|dddd");
+            type(x, ":" + range[0] + "d" + ENTER);
+            due(range[0], x.buffer() + held(x), range[1].split("\\|").length + range[1]);
+        }
+    }
+
+    @Says("a backslash and a character that one, others but / themselves")
+    private static void replacementsInLaterLines() {
+        lineDoes("a|bb|ccb", "", "3s/b/\\&/", "a|bb|cc&", at(2, 0));
+        lineDoes("a|bb|ccb", "", "%s/b/&\\&\\//g", "a|b&/b&/|ccb&/", at(2, 0));
+        lineDoes("1|2|3|4|5|6|7|8|9|abc", "", "$s/c/[\\\\&]/", "1|2|3|4|5|6|7|8|9|ab[\\c]", at(9, 0));
+        lineDoes("a|bb|ccb", "", "g/b/s/b$/\\x&y/", "a|bxby|ccxby", at(2, 0));
+    }
+
+    @Says("for one with * any number")
+    private static void eightStars() {
+        lineDoes("xaabbccddeeffggh", "", "s/x*a*b*c*d*e*f*g*/z/", "zh", 0);
+        lineDoes("xg", "", "s/x*a*b*c*d*e*f*g*/z/", "z", 0);
+        lineDoes("abcdefghhi", "", "s/abcdefgh*/z/", "zi", 0);
+        lineDoes("aabcdefghi", "", "s/a*bcdefgh/z/", "zi", 0);
+        finds("xabcdefghh", "abcdefgh*$", 1);
+        finds("xabcdefg", "abcdefgh*$", 1);
+    }
+
+    @Says("y puts them into the BUFFER")
+    private static void heldOneAfterAnother() {
+        KeyScreen x = with("ab|c|d|e|f|g");
+        String[][] steps = {{"3yy", "3ab|c|d"}, {"yl", "0a"}, {"6Gyl", "0g"}, {"5Gyy", "1f"}, {"1Gy$", "0ab"}, {"2yy", "2ab|c"}, {"yG", "6ab|c|d|e|f|g"},
+            {"2Gyl", "0c"}, {"yj", "2c|d"}, {"5Gyk", "2e|f"}, {"x", "0f"}};
+        for (String[] step : steps) {
+            due(step[0], type(x, step[0]) + x.buffer() + held(x), "0".repeat(step[0].length()) + step[1]);
+        }
+        KeyScreen y = with("abc");
+        due("twice in one line", type(y, "yllyl") + held(y), "00000" + "b");
+        does("abc", "xxP", "bc", 0);
+        does("abc|d", "yyjylP", "abc|dd", at(1, 0));
+    }
+
     private static void run(Method test) {
         int before = checks;
         sentence = test.getAnnotation(Says.class).value();
@@ -2127,10 +2546,34 @@ public final class BoundaryTests {
         }
     }
 
+    /** The document without its headings, the signs around its blocks and what it does not promise. */
+    private static String promisedWords(String document) {
+        int end = document.indexOf("## Not promised");
+        String promised = end < 0 ? document : document.substring(0, end);
+        return promised.replaceAll("(?m)^(#|```).*$", "").replaceAll("\\s+", " ");
+    }
+
+    private static void mark(BitSet borne, String document, String words) {
+        for (int at = document.indexOf(words); at >= 0; at = document.indexOf(words, at + 1)) {
+            borne.set(at, at + words.length());
+        }
+    }
+
+    private static String unmarked(BitSet borne, String document) {
+        StringBuilder words = new StringBuilder();
+        for (int i = 0; i < document.length(); i++) {
+            if (!borne.get(i) && Character.isLetterOrDigit(document.charAt(i))) {
+                words.append(i > 0 && borne.get(i - 1) ? " " : "").append(document.charAt(i));
+            }
+        }
+        return words.toString();
+    }
+
     public static void main(String[] args) throws Exception {
-        Method[] tests = BoundaryTests.class.getDeclaredMethods();
+        Method[] tests = SentenceTests.class.getDeclaredMethods();
         Arrays.sort(tests, Comparator.comparing(Method::getName));
-        String document = args.length == 0 ? null : Files.readString(Path.of(args[0])).replaceAll("\\s+", " ");
+        String document = args.length == 0 ? null : promisedWords(Files.readString(Path.of(args[0])));
+        BitSet borne = new BitSet();
         int ran = 0;
         for (Method test : tests) {
             Says says = test.getAnnotation(Says.class);
@@ -2139,8 +2582,13 @@ public final class BoundaryTests {
                 ran++;
                 if (document != null) {
                     due("stands in the document", document.contains(says.value()), true);
+                    mark(borne, document, says.value());
                 }
             }
+        }
+        if (document != null) {
+            sentence = "all sentences";
+            due("words that no test bears", unmarked(borne, document), "");
         }
         System.out.println(ran + " tests, " + checks + " answers, " + wrong + " of them not as due");
         if (wrong != 0) {
