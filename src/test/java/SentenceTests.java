@@ -2533,6 +2533,121 @@ public final class SentenceTests {
         does("abc|d", "yyjylP", "abc|dd", at(1, 0));
     }
 
+    @Says("A command is a COUNT 1 .. 99 in decimal without leading zeros")
+    private static void countsFromTwentyOn() {
+        KeyScreen x = with("a b c d e f g h i j");
+        type(x, "yypppppppp" + "p1G");
+        due("ten lines of ten words", x.lines(), 10);
+        due("25 words", type(x, "25w") + x.cursor(), "000" + at(2, 10));
+        due("74 words more", type(x, "74w") + x.cursor(), "000" + at(9, 18));
+        due("99 words back", type(x, "99b") + x.cursor(), "000" + 0);
+        due("99 words", type(x, "99w") + x.cursor(), "000" + at(9, 18));
+        due("one more", type(x, "w") + x.cursor(), "1" + at(9, 18));
+        rings(TEN_LINES, "", "20G");
+        rings(TEN_LINES, "", "90G");
+        rings(TEN_LINES, "", "21dd");
+    }
+
+    @Says("if it begins with ^ and has more, all characters but those of the rest")
+    private static void theSignOfASetAlone() {
+        lineDoes("a^b", "", "s/[^]/x/", "axb", 0);
+        lineDoes("a|b^", "", "/b[^]/s/.[^]/x/", "a|x", at(1, 0));
+        lineDoes("a^b", "", "g/[^]b/s/a[^]/x/", "xb", 0);
+        finds("aab^", "ab[^]", 1);
+    }
+
+    @Says("a character with - and one more behind it means all from the one to the other")
+    private static void spansAnywhere() {
+        finds("ba", "[xa-]", 1);
+        finds("b-", "[xa-]", 1);
+        findsNothing("b]", "[xa-]");
+        finds("vxyzwb", "xyzw[a-c]", 1);
+        findsNothing("vxyzwd", "xyzw[a-c]");
+        finds("v1234567b", "1234567[x-za-c]", 1);
+        lineDoes("abcdef", "", "s/a[a-c]c[c-e]*/x/", "xf", 0);
+        lineDoes("abcdef", "", "s/[x-zc-e][^a-d]/x/", "abcxf", 0);
+    }
+
+    @Says("lines taken out change the numbers, not the lines noted")
+    private static void linesNotedFarFromEachOther() {
+        lineDoes("a|bb|c|dd|e|af|g|hh", "3G", "g/a/d", "bb|c|dd|e|g|hh", at(4, 0));
+        lineDoes("a|bb|c|dd|e|ff|g|h|i|ak", "3G", "g/a/d", "bb|c|dd|e|ff|g|h|i", at(7, 0));
+        lineDoes("a|bb|c|dd|e|ff|ag|h|i|ak", "3G", "g/a/s/a/xx/", "xx|bb|c|dd|e|ff|xxg|h|i|xxk", at(9, 0));
+    }
+
+    @Says("or its lines, as new ones, below or above L, the cursor at column 0 of the first of them")
+    private static void moreLinesThanTheTextHas() {
+        does("a|bb|ccc", "3ddp", "|a|bb|ccc", at(1, 0));
+        does("a|bb|ccc", "3ddP", "a|bb|ccc|", 0);
+        does("a|bb|ccc", ":2,3d" + ENTER + "p", "a|bb|ccc", at(1, 0));
+    }
+
+    @Says("the first one that rings in COMMAND ends it, and what was done by then stays)")
+    private static void aPeriodThatEndsBehindItsOperator() {
+        for (String change : new String[] {"cwiab" + ESC, "c$xx" + ESC, "2clio" + ESC, "clap" + ESC}) {
+            KeyScreen x = with("abcd|");
+            due(change, type(x, change + "j"), "0".repeat(change.length() + 1));
+            String was = state(x);
+            due(change + " where there is nothing", type(x, "."), "1");
+            due(change + " where there is nothing", state(x), was);
+        }
+        KeyScreen y = with("a|b|c");
+        due("cj once", type(y, "cjia" + ESC) + text(y), "00000" + "ia|c");
+        due("cj again", type(y, "j.") + text(y) + y.mode() + y.cursor(), "01" + "ia|c" + 0 + at(1, 0));
+    }
+
+    @Says("d takes them out as well")
+    private static void takenOutOfAFullTenthLine() {
+        String nine = NINE_LINES + "|";
+        does(nine + TWENTY, "Gx", nine + "bcdefghijklmnopqrst", at(9, 0));
+        does(nine + TWENTY, "G$x", nine + NINETEEN, at(9, 18));
+        does(nine + TWENTY, "G5l3x", nine + "abcdeijklmnopqrst", at(9, 5));
+        does(nine + TWENTY, "Gd$", nine, at(9, 0));
+        does(nine + TWENTY, "Gdd", NINE_LINES, at(8, 0));
+    }
+
+    @Says("a line for which not enough rows are left shows @ at the beginning of each of those")
+    private static void linesThatNeedUnlikeRows() {
+        KeyScreen x = new KeyScreen(5);
+        type(x, "iabcdefg" + ENTER + "b" + ENTER + "c" + ENTER + "ddddddd" + ESC);
+        due("from the second line on", x.top() + screen(x, 5), 1 + "b|c|ddddd|dd|~");
+        due("one row is left", type(x, "1G") + x.top() + screen(x, 5), "00" + 0 + "abcde|fg|b|c|@");
+        KeyScreen y = new KeyScreen(5);
+        type(y, "ia" + ENTER + "bbbbbbb" + ENTER + "ccccccccccccc" + ESC + "1G");
+        due("two rows are left", y.top() + screen(y, 5), 0 + "a|bbbbb|bb|@|@");
+        type(y, "G9x1G");
+        due("and they are enough", y.top() + screen(y, 5), 0 + "a|bbbbb|bb|cccc|~");
+    }
+
+    @Says("and while the lines from TOP to the cursor's need more than 5 rows, TOP is one more")
+    private static void topOverLinesThatNeedUnlikeRows() {
+        KeyScreen x = new KeyScreen(5);
+        type(x, "iaaaaaaaaaaaa" + ENTER + "b" + ENTER + "cccccccccc" + ENTER + "d" + ENTER + "eeeeeee" + ENTER + "f" + ESC + "1G");
+        due("the first line", x.top() + screen(x, 5), 0 + "aaaaa|aaaaa|aa|b|@");
+        int[] down = {0, 1, 1, 2, 3};
+        for (int line = 1; line < 6; line++) {
+            due("j to line " + line, type(x, "j") + x.top(), "0" + down[line - 1]);
+        }
+        int[] up = {3, 3, 2, 1, 0};
+        for (int line = 4; line >= 0; line--) {
+            due("k to line " + line, type(x, "k") + x.top(), "0" + up[4 - line]);
+        }
+        due("G", type(x, "G") + x.top() + screen(x, 5), "0" + 3 + "d|eeeee|ee|f|~");
+    }
+
+    @Says("A SEARCH line (begun with /) is a pattern")
+    private static void onePatternAfterAnother() {
+        KeyScreen x = with("xabcdefghh|b");
+        String[] patterns = {"abcdefgh*$", "b", "^b", "g", "h$", "h", "[^h]", "h"};
+        int[] cursors = {1, 2, at(1, 0), 7, 9, 8, at(1, 0), 8};
+        for (int i = 0; i < patterns.length; i++) {
+            String keys = "/" + patterns[i] + ENTER;
+            due(keys, type(x, keys) + x.cursor(), "0".repeat(keys.length()) + cursors[i]);
+        }
+        due("what is no pattern", type(x, "/b[" + ENTER) + x.cursor(), "0001" + 8);
+        due("the next one", type(x, "/b" + ENTER) + x.cursor(), "000" + at(1, 0));
+    }
+
     private static void run(Method test) {
         int before = checks;
         sentence = test.getAnnotation(Says.class).value();
