@@ -12,8 +12,8 @@ import java.util.TreeSet;
 
 /**
  * Each sentence of the document with a test of its own, on objects of its own, none of which is used for more than
- * 512 calls. With the path of the document as argument, it also looks whether each sentence stands there, and whether
- * there is a word of the promises that no test bears.
+ * 512 calls but for the one that shows that later calls end. With the path of the document as argument, it also looks
+ * whether each sentence stands there, and whether there is a word of the promises that no test bears.
  */
 public final class SentenceTests {
     /** The words of the document that a test holds the program to. */
